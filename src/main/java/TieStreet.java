@@ -89,7 +89,7 @@ public final class TieStreet {
     public int has(int what) {
         switch (what) {
             case 0: return people.persons;
-            case 1: return people.pairCount();
+            case 1: return people.pairCount;
             case 2: return rules.countOf(Rules.COST);
             case 3: return rules.countOf(Rules.NEWS);
             case 4: return worths.extra;
@@ -207,7 +207,7 @@ public final class TieStreet {
             return NONE;
         }
         resting.count = 0;
-        long nets = 1L << people.pairCount();
+        long nets = 1L << people.pairCount;
         for (long net = 0; net < nets; net++) {
             if (people.may(net) && !changes.endRest(net, kind)) {
                 resting.note(net);
@@ -233,7 +233,7 @@ public final class TieStreet {
         }
         boolean found = false;
         long chosen = 0;
-        long nets = 1L << people.pairCount();
+        long nets = 1L << people.pairCount;
         for (long net = 0; net < nets; net++) {
             if (people.may(net) && !changes.endRest(net, kind)) {
                 long worth = worths.inAll(net);
@@ -277,7 +277,7 @@ public final class TieStreet {
             return NONE;
         }
         long sum = 0;
-        for (int pair = 0; pair < people.pairCount(); pair++) {
+        for (int pair = 0; pair < people.pairCount; pair++) {
             if (((theNet >> pair) & 1) != 0) {
                 sum += giftOf(pairs.low[pair], pair, what == 1) + giftOf(pairs.high[pair], pair, what == 1);
             }
@@ -286,7 +286,7 @@ public final class TieStreet {
     }
 
     public long gift(int person, int pair, boolean help) {
-        if (pair < 0 || pair >= people.pairCount() || ((theNet >> pair) & 1) == 0) {
+        if (pair < 0 || pair >= people.pairCount || ((theNet >> pair) & 1) == 0) {
             return NONE;
         }
         if (person != pairs.low[pair] && person != pairs.high[pair]) {
@@ -298,7 +298,7 @@ public final class TieStreet {
     public long good(boolean kept) {
         long found = 0;
         long before = worths.inAll(theNet);
-        for (int pair = 0; pair < people.pairCount(); pair++) {
+        for (int pair = 0; pair < people.pairCount; pair++) {
             long bit = 1L << pair;
             boolean tied = (theNet & bit) != 0;
             if (tied == kept && people.may(theNet ^ bit)
@@ -416,7 +416,7 @@ public final class TieStreet {
     private long bestNet() {
         long found = 0;
         long most = worths.inAll(0);
-        long nets = 1L << people.pairCount();
+        long nets = 1L << people.pairCount;
         for (long net = 1; net < nets; net++) {
             if (people.may(net) && worths.inAll(net) > most) {
                 found = net;
@@ -571,6 +571,7 @@ public final class TieStreet {
         final int[] places = new int[MOST_PERSONS];
         final int[] most = new int[MOST_PERSONS];
         int persons;
+        int pairCount;
         int barCount;
         long barred;
 
@@ -580,12 +581,14 @@ public final class TieStreet {
 
         void clear() {
             persons = 0;
+            pairCount = 0;
             barCount = 0;
             barred = 0;
         }
 
         void copy(People other) {
             persons = other.persons;
+            pairCount = other.pairCount;
             barCount = other.barCount;
             barred = other.barred;
             System.arraycopy(other.names, 0, names, 0, names.length);
@@ -599,6 +602,7 @@ public final class TieStreet {
                 places[persons] = place;
                 most[persons] = MOST_PERSONS - 1;
                 persons++;
+                pairCount = Pairs.count(persons);
             }
         }
 
@@ -615,12 +619,8 @@ public final class TieStreet {
             return person >= 0 && person < persons;
         }
 
-        int pairCount() {
-            return Pairs.count(persons);
-        }
-
         boolean isNet(long net) {
-            return net >= 0 && net < 1L << pairCount();
+            return net >= 0 && net < 1L << pairCount;
         }
 
         boolean may(long net) {
@@ -1318,7 +1318,7 @@ public final class TieStreet {
                 near[p] = 0;
             }
             Pairs pairs = people.pairs;
-            for (int pair = 0; pair < people.pairCount(); pair++) {
+            for (int pair = 0; pair < people.pairCount; pair++) {
                 if (((net >> pair) & 1) != 0) {
                     near[pairs.low[pair]] |= 1 << pairs.high[pair];
                     near[pairs.high[pair]] |= 1 << pairs.low[pair];
@@ -1431,7 +1431,7 @@ public final class TieStreet {
         }
 
         boolean firstAdd(long net) {
-            for (int pair = 0; pair < people.pairCount(); pair++) {
+            for (int pair = 0; pair < people.pairCount; pair++) {
                 if (((net >> pair) & 1) == 0 && moves(net, pair)) {
                     return found(ADD, bothOf(pair), net | 1L << pair);
                 }
@@ -1455,7 +1455,7 @@ public final class TieStreet {
         }
 
         private boolean firstCut(long net) {
-            for (int pair = 0; pair < people.pairCount(); pair++) {
+            for (int pair = 0; pair < people.pairCount; pair++) {
                 if (((net >> pair) & 1) != 0) {
                     long then = net & ~(1L << pair);
                     if (gains(net, then, pairs.low[pair])) {
@@ -1510,7 +1510,7 @@ public final class TieStreet {
         }
 
         private boolean firstTogether(long net) {
-            for (int pair = 0; pair < people.pairCount(); pair++) {
+            for (int pair = 0; pair < people.pairCount; pair++) {
                 long then = net ^ 1L << pair;
                 int a = pairs.low[pair];
                 int b = pairs.high[pair];
@@ -1529,7 +1529,7 @@ public final class TieStreet {
             for (int p = 0; p < people.persons; p++) {
                 before[p] = worths.of(net, p);
             }
-            long nets = 1L << people.pairCount();
+            long nets = 1L << people.pairCount;
             for (long then = 0; then < nets; then++) {
                 int set = leastSet(gainers(net, then), then & ~net, net & ~then);
                 if (set != 0 && people.may(then)) {
@@ -1584,7 +1584,7 @@ public final class TieStreet {
         }
 
         int firstPair(long net) {
-            for (int pair = 0; pair < people.pairCount(); pair++) {
+            for (int pair = 0; pair < people.pairCount; pair++) {
                 if (changes.moves(net, pair)) {
                     return pair;
                 }
@@ -1594,7 +1594,7 @@ public final class TieStreet {
 
         int drawnPair(long net, int seed) {
             int count = 0;
-            for (int pair = 0; pair < people.pairCount(); pair++) {
+            for (int pair = 0; pair < people.pairCount; pair++) {
                 if (changes.moves(net, pair)) {
                     moving[count] = pair;
                     count++;
