@@ -84,7 +84,7 @@ public final class EdgeLieTest {
         // who is the third, has but one tie: 12 and 11 less 5
         c.due("lie(2)", x.lie(2), 0);
         c.due("lied()", x.lied(), 18);
-        x = c.street("who a at 0; who b at 0; who c at 0; cost 5 when all; cost 5 when all;"
+        x = c.street("who a at 0; who b at 0; who c at 0; cost 5 when all;"
                 + "news 12 when ways = 1; news 11 when all; bar a b;");
         c.due("lie(0) at the end of a line", x.lie(0), 0);
         c.due("lied()", x.lied(), 18);

@@ -93,6 +93,8 @@ public final class FewTest {
         c.due("best that may be", x.best(), 5);
         x = c.street(THREE + "cost 2 when all;");
         c.due("best is none", x.best(), 0);
+        c.due("best is the first tie", c.street(THREE + "news 2 when ties = 1;").best(), 1);
+        c.due("best is all ties", c.street(THREE + "news 2 when ties = 3;").best(), 7);
         x.extra(-3);
         c.due("best with EXTRA", x.best(), 7);
         c.due("THE NET stays", x.net(), 0);
@@ -115,9 +117,17 @@ public final class FewTest {
         // a always wants one more or one less
         x = c.street("who a at 0; who b at 0; news 1 when is a; cost 2 when is b;");
         c.due("at rest together: none tied", x.loss(4, false), 0);
-        x = c.street(THREE + "news 2 when is a; news 3 when is b and ties = 2; cost 2 when is b and ties = 1; cost 3 when is a and ties = 2; cost 3 when is c;");
-        int count = x.all(1, false);
-        c.due("loss is NONE, just when none is at rest", x.loss(1, false) == -1, count == 0);
+        // two who can't leave it at that: tied, b cuts; not tied, a gains and b does not lose
+        x = c.street("who a at 0; who b at 0; news 1 when is a; news 0 - 1 when is b and ties = 1; cost 0 - 1 when is b;");
+        c.due("all(1)", x.all(1, false), 1);
+        c.due("loss(1, true)", x.loss(1, true), 0);
+        // more ties lead further, but each one makes all news less: there is always one to make or to cut
+        x = c.street(THREE + "who d at 0; news 17 / ties when all;");
+        c.due("none is at rest", x.all(1, false), 0);
+        c.due("one(0)", x.one(0), -1);
+        c.due("loss(1, false)", x.loss(1, false), -1);
+        c.due("loss(1, true)", x.loss(1, true), -1);
+        c.due("some are by cuts alone", x.all(0, true) > 0, true);
     }
 
     private static void coming(Checks c) {

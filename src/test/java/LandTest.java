@@ -34,6 +34,9 @@ public final class LandTest {
         c.fault("cost 1 when [[[[[[all]]]]]];", 0, 1);
         c.fault("cost 1 when not not not not not not all and not all;", 0, 1);
         c.fault("cost (1)+((2))*(((3))) when all;", 0, 1);
+        c.fault("cost 1" + "+1".repeat(392) + " when all;", 0, 1);
+        c.fault("cost 1 when 1<1" + " or 1<1".repeat(111) + "      ;", 0, 1);
+        c.fault(" ".repeat(789) + "who a at 1;", 0, 1);
     }
 
     private static void byteFaults(Checks c) {
@@ -95,6 +98,10 @@ public final class LandTest {
         c.fault("who a at 1; cost 1 when is not;", 1, 27);
         c.fault("who a at 1;;", 1, 11);
         c.fault("at a at 1;", 1, 0);
+        c.fault(";".repeat(800), 1, 0);
+        c.fault("a1".repeat(400), 1, 0);
+        c.fault("who " + "a".repeat(796), 1, 10);
+        c.fault("who a at " + "1".repeat(791), 1, 13);
     }
 
     private static void blanksBetween(Checks c) {

@@ -222,7 +222,13 @@ public final class ModelTest {
                 same("step(" + seed + ")", x.step(seed), m.step(seed));
                 break;
             }
-            case 12: same("go()", x.go(), m.go()); break;
+            case 12:
+                same("go()", x.go(), m.go());
+                // where there is no CUT and no ADD one comes to SEVERAL and SWAP
+                same("rest(2)", x.rest(2), m.rest(2));
+                same("bars(2)", x.bars(2), m.bars(2));
+                same("rest(3)", x.rest(3), m.rest(3));
+                break;
             case 13: same("all(" + k + ", " + flag + ")", x.all(k, flag), m.all(k, flag)); break;
             case 14: same("best()", x.best(), m.best()); break;
             case 15: same("loss(" + k + ", " + flag + ")", x.loss(k, flag), m.loss(k, flag)); break;

@@ -30,6 +30,9 @@ public final class RestTest {
         c.due("bars(0) without one", x.bars(0), -1);
         x = c.street(THREE + "who d at 0; who e at 0; who f at 0;");
         c.due("rest(5) of six", x.rest(5), -1);
+        x = c.street(THREE + "who d at 0; who e at 0; news 1 when ties = 10;");
+        bar(c, x, 5, 5, 31, 1023);
+        x = c.street(THREE + "who d at 0; who e at 0; who f at 0;");
         for (int kind = 0; kind <= 4; kind++) {
             c.due("rest of six", x.rest(kind), 1);
         }
@@ -102,6 +105,20 @@ public final class RestTest {
         x = c.street("who a at 0; who b at 10; who c at 5; news 20 - miles when ways = 1; cost 30 when mine > 1 or is c;");
         x.net(1);
         c.due("c would lose", x.rest(3), 1);
+
+        // with another one of a lesser number, who gains nothing and loses nothing
+        x = c.street("who a at 5; who b at 0; who c at 10; news 20 - miles when ways = 1 and is b; cost 30 when mine > 1;");
+        x.net(4);
+        bar(c, x, 3, 3, 3, 1);
+        // by the PAIR cut, then by the PAIR made
+        x = c.street("who a at 5; who b at 5; who c at 0; who d at 5; who e at 9;"
+                + "news 20 - miles when ways = 1 and is c; cost 30 when is c and mine > 1;");
+        x.net(x.shape(2, 2) & 256);
+        bar(c, x, 3, 3, 5, 2);
+        x = c.street("who a at 9; who b at 9; who c at 0; who d at 5; who e at 4;"
+                + "news 20 - miles when ways = 1 and is c; cost 30 when is c and mine > 2;");
+        x.net(6);
+        bar(c, x, 3, 3, 12, 4 + 32);
     }
 
     private static void togethers(Checks c) {

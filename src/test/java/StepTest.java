@@ -49,6 +49,11 @@ public final class StepTest {
             c.due("step(" + seed + ")", s.step(seed), want);
             c.due("net()", s.net(), 1L << want);
         }
+        TieStreet only = c.street("who a at 0; who b at 0; news 1 when all;");
+        c.due("of one pair", only.step(5), 0);
+        c.due("of none", only.step(5), -1);
+        only.extra(2);
+        c.due("a CUT", only.step(5), 0);
         TieStreet s = c.street(text);
         // seed 0: x = 12345, floor(12345 / 256) = 48, 48 mod 5 = 3, mod 4 = 0, mod 3 = 0, mod 2 = 0
         c.due("step(0)", s.step(0), 4);
