@@ -30,6 +30,8 @@ public final class GiftTest {
         c.due("gift(-1, 0, false)", x.gift(-1, 0, false), -1);
         c.due("gift(0, 1, false)", x.gift(0, 1, false), -1);
         c.due("gift(0, -1, false)", x.gift(0, -1, false), -1);
+        c.due("gift(0, 64, false)", x.gift(0, 64, false), -1);
+        c.due("gift(0, -64, false)", x.gift(0, -64, false), -1);
         c.due("gift(0, MAX, false)", x.gift(0, Integer.MAX_VALUE, false), -1);
         x.extra(7);
         c.due("need 10, loss 3", x.gift(1, 0, false), 3);
