@@ -2,13 +2,30 @@
 final class Checks {
     private int wrong;
     private int asked;
+    /** What a sentence test says ahead of each wrong answer: where the sentence stands, and the sentence. */
+    private String sentence = "";
+    private int askedAhead;
 
     void due(String call, long got, long want) {
         asked++;
         if (got != want) {
             wrong++;
-            System.out.println(call + " answered " + got + ", due is " + want);
+            System.out.println(sentence + call + " answered " + got + ", due is " + want);
         }
+    }
+
+    /** Begins the test of one sentence; the one ahead must have asked something. */
+    void begin(String where, String quote) {
+        endSentence();
+        sentence = where + ", '" + quote + "': ";
+        askedAhead = asked;
+    }
+
+    void endSentence() {
+        if (!sentence.isEmpty() && asked == askedAhead) {
+            due("asked nothing: it", 0, 1);
+        }
+        sentence = "";
     }
 
     void due(String call, boolean got, boolean want) {
