@@ -164,7 +164,7 @@ public final class TieStreet {
         if (!isKind(kind) || (kind == SET_KIND && people.persons > FEW_PERSONS)) {
             return NONE;
         }
-        if (!changes.endRest(theNet, kind)) {
+        if (!changes.endRest(theNet, kind, true)) {
             return 1;
         }
         barRow[0] = changes.sort;
@@ -209,7 +209,7 @@ public final class TieStreet {
         resting.count = 0;
         long nets = 1L << people.pairCount;
         for (long net = 0; net < nets; net++) {
-            if (people.may(net) && !changes.endRest(net, kind)) {
+            if (people.may(net) && !changes.endRest(net, kind, false)) {
                 resting.note(net);
             }
         }
@@ -235,7 +235,7 @@ public final class TieStreet {
         long chosen = 0;
         long nets = 1L << people.pairCount;
         for (long net = 0; net < nets; net++) {
-            if (people.may(net) && !changes.endRest(net, kind)) {
+            if (people.may(net) && !changes.endRest(net, kind, false)) {
                 long worth = worths.inAll(net);
                 if (!found || (worst ? worth < chosen : worth > chosen)) {
                     chosen = worth;
@@ -319,7 +319,7 @@ public final class TieStreet {
         for (int i = 0; i <= to - from && found == NO_EDGE; i++) {
             int tried = most ? to - i : from + i;
             worths.extra = tried;
-            if (!changes.endRest(theNet, kind)) {
+            if (!changes.endRest(theNet, kind, false)) {
                 found = tried;
             }
         }
@@ -1291,13 +1291,17 @@ public final class TieStreet {
 
         long of(long net, int person) {
             long key = net * people.persons + person;
-            int slot = (int) (key ^ key >> PLACE_BITS ^ key >> 2 * PLACE_BITS ^ key >> 3 * PLACE_BITS) & (PLACES - 1);
+            int slot = (int) (key < PLACES ? key : mix(key)) & (PLACES - 1);
             if (keys[slot] != key) {
                 kept[slot] = reckon(net, person);
                 keys[slot] = key;
             }
-            int ties = Long.bitCount(net & people.pairs.stars[person]);
-            return kept[slot] - (long) ties * (person == liar ? extra + said : extra);
+            long more = person == liar ? extra + said : extra;
+            return more == 0 ? kept[slot] : kept[slot] - more * Long.bitCount(net & people.pairs.stars[person]);
+        }
+
+        private static long mix(long key) {
+            return key ^ key >> PLACE_BITS ^ key >> 2 * PLACE_BITS ^ key >> 3 * PLACE_BITS;
         }
 
         long inAll(long net) {
@@ -1403,14 +1407,16 @@ public final class TieStreet {
             }
         }
 
-        boolean endRest(long net, int kind) {
+        /** Whether a CHANGE ends REST by a kind; it is the first one that does, if that is asked. */
+        boolean endRest(long net, int kind, boolean askFirst) {
             switch (kind) {
                 case 0: return firstCut(net);
                 case 1: return firstCut(net) || firstAdd(net);
                 case 2: return firstCut(net) || firstAdd(net) || firstSeveral(net);
                 case 3: return firstCut(net) || firstAdd(net) || firstSwap(net);
                 case 4: return firstTogether(net);
-                case 5: return firstSet(net);
+                // a CUT is a SET too, and is sooner found
+                case 5: return (!askFirst && (firstCut(net) || firstBothGain(net))) || firstSet(net);
                 default: return false;
             }
         }
@@ -1464,6 +1470,18 @@ public final class TieStreet {
                     if (gains(net, then, pairs.high[pair])) {
                         return found(CUT, 1 << pairs.high[pair], then);
                     }
+                }
+            }
+            return false;
+        }
+
+        /** The first ADD by which both gain: a SET of two. */
+        private boolean firstBothGain(long net) {
+            for (int pair = 0; pair < people.pairCount; pair++) {
+                long then = net | 1L << pair;
+                if (then != net && gains(net, then, pairs.low[pair]) && gains(net, then, pairs.high[pair])
+                        && people.may(then)) {
+                    return found(SET, bothOf(pair), then);
                 }
             }
             return false;
@@ -1531,23 +1549,32 @@ public final class TieStreet {
             }
             long nets = 1L << people.pairCount;
             for (long then = 0; then < nets; then++) {
-                int set = leastSet(gainers(net, then), then & ~net, net & ~then);
-                if (set != 0 && people.may(then)) {
-                    return found(SET, set, then);
+                long made = then & ~net;
+                int maker = firstMaker(made);
+                // most are done with here: who makes a TIE must gain
+                if (maker == NONE || worths.of(then, maker) > before[maker]) {
+                    int set = leastSet(gainers(then), made, net & ~then);
+                    if (set != 0 && people.may(then)) {
+                        return found(SET, set, then);
+                    }
                 }
             }
             return false;
         }
 
-        /** All who gain; none, if one does not who makes a TIE. */
-        private int gainers(long net, long then) {
+        private int firstMaker(long made) {
+            for (int p = 0; p < people.persons && made != 0; p++) {
+                if ((made & pairs.stars[p]) != 0) {
+                    return p;
+                }
+            }
+            return NONE;
+        }
+
+        private int gainers(long then) {
             int set = 0;
             for (int p = 0; p < people.persons; p++) {
-                if (worths.of(then, p) > before[p]) {
-                    set |= 1 << p;
-                } else if ((then & ~net & pairs.stars[p]) != 0) {
-                    return 0;
-                }
+                set |= worths.of(then, p) > before[p] ? 1 << p : 0;
             }
             return set;
         }

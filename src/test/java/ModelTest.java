@@ -170,14 +170,64 @@ public final class ModelTest {
         x = new TieStreet();
         m = new Model();
         int[] sizes = {2, 3, 3, 3, 4, 4, 4, 4, 5, 5, 6, 6, 7, 8, 9, 10, 0, 1};
-        String text;
-        do {
-            text = landText(sizes[draw(sizes.length)], 1 + draw(5));
-        } while (text.length() > 800);
-        giveLand(text);
+        giveLand(fittingText(sizes[draw(sizes.length)]));
         for (int i = 0; i < 40; i++) {
             call();
+            if (chance(4)) {
+                landAgain(sizes[draw(sizes.length)]);
+            }
         }
+    }
+
+    private String fittingText(int persons) {
+        String text;
+        do {
+            text = landText(persons, 1 + draw(5));
+        } while (text.length() > 800);
+        return text;
+    }
+
+    /** Another LAND on the same object, or a text with a FAULT after which all stays. */
+    private void landAgain(int persons) {
+        String text = fittingText(persons);
+        giveLand(chance(30) && text.length() > 1 ? text.substring(0, draw(text.length())) : text);
+        lookRound();
+    }
+
+    /** Numbers far from all that can be: nothing throws, nothing is taken. */
+    private void farNumbers() {
+        int[] ints = {Integer.MIN_VALUE, Integer.MIN_VALUE + 1, Integer.MAX_VALUE, 1 << 30, -(1 << 30), 1 << 16};
+        long[] longs = {Long.MIN_VALUE, Long.MAX_VALUE, 1L << 45, 1L << 46, -1L << 45, 1L << 62};
+        int i = ints[draw(ints.length)];
+        int j = ints[draw(ints.length)];
+        long n = longs[draw(longs.length)];
+        boolean flag = chance(50);
+        same("net(" + n + ")", x.net(n) ? 1 : 0, m.net(n) ? 1 : 0);
+        same("extra(" + i + ")", x.extra(i) ? 1 : 0, m.extra(i) ? 1 : 0);
+        same("end(" + i + ")", x.end(i) ? 1 : 0, m.end(i) ? 1 : 0);
+        same("worth(" + i + ")", x.worth(i), m.worth(i));
+        same("ways(" + i + ", 0)", x.ways(i, 0), m.ways(i, 0));
+        same("ways(0, " + i + ")", x.ways(0, i), m.ways(0, i));
+        same("rest(" + i + ")", x.rest(i), m.rest(i));
+        same("all(" + i + ")", x.all(i, flag), m.all(i, flag));
+        same("loss(" + i + ")", x.loss(i, flag), m.loss(i, flag));
+        same("gifts(" + i + ")", x.gifts(i), m.gifts(i));
+        same("gift(" + i + ", 0)", x.gift(i, 0, flag), m.gift(i, 0, flag));
+        same("gift(0, " + i + ")", x.gift(0, i, flag), m.gift(0, i, flag));
+        same("edge(1, " + i + ", " + j + ")", x.edge(1, i, j, flag), m.edge(1, i, j, flag));
+        same("edge(" + i + ", 0, 1)", x.edge(i, 0, 1, flag), m.edge(i, 0, 1, flag));
+        same("lie(" + i + ")", x.lie(i), m.lie(i));
+        same("shape(" + i + ", 0)", x.shape(i, 0), m.shape(i, 0));
+        same("shape(2, " + i + ")", x.shape(2, i), m.shape(2, i));
+        same("letter(" + i + ", " + j + ")", x.letter(i, j), m.letter(i, j));
+        same("step(" + i + ")", x.step(i), m.step(i));
+        same("bars(" + i + ")", x.bars(i), m.bars(i));
+        same("ring(" + i + ")", x.ring(i), m.ring(i));
+        same("one(" + i + ")", x.one(i), m.one(i));
+        same("comes(" + i + ")", x.comes(i, flag), m.comes(i, flag));
+        same("octet(" + i + ")", x.octet(i), m.octet(i));
+        same("has(" + i + ")", x.has(i), m.has(i));
+        same("fault(" + i + ")", x.fault(i), m.fault(i));
     }
 
     private int person() {
@@ -205,7 +255,7 @@ public final class ModelTest {
         int p = person();
         int q = person();
         int k = kind();
-        switch (draw(24)) {
+        switch (draw(25)) {
             case 0: case 1: case 2: someNet(); break;
             case 3: {
                 int e = chance(90) ? draw(25) - 12 : draw(2203) - 1101;
@@ -258,6 +308,7 @@ public final class ModelTest {
                 same("shape(" + which + ", " + p + ")", x.shape(which, p), m.shape(which, p));
                 break;
             }
+            case 23: farNumbers(); break;
             default: images(); break;
         }
         lookRound();
