@@ -5,6 +5,8 @@ final class FewSentences {
     static void ask(Sentences s) {
         few(s);
         allNets(s);
+        allAsRest(s);
+        allBySets(s);
         shapes(s);
         best(s);
         losses(s);
@@ -56,6 +58,53 @@ final class FewSentences {
         x = people(c, 5, "news 1 when ways = 1;");
         c.due("the last alone", x.all(1, false), 1);
         c.due("all TIES", x.one(0), 1023);
+    }
+
+    private static void allAsRest(Sentences s) {
+        Checks c = s.of("Promise 19", "ALL at REST by a kind: how many NETS (shapes false)");
+        String[] rules = {"", "cost 5 when all;news 12 / ways when all;", "cost 3 * mine when all;news 10 when ways = 1;news 4 when ways = 2;",
+            "news 5 when is a;", "cost 4 when is b;news 4 when all;", "news 9 / theirs when ways < 3;cost mine when not is c;bar a b;",
+            "news 8 - ties when all;most a 1;", "cost 2 when mine > 1;news 2 when ways = 1 or is b;"};
+        for (int n = 3; n <= 5; n++) {
+            for (String rule : n == 5 ? new String[] {rules[2]} : rules) {
+                TieStreet x = people(c, n, rule);
+                for (int kind = 0; kind <= 5; kind++) {
+                    eachAsRest(c, x, kind);
+                }
+            }
+        }
+    }
+
+    /** all() of a kind has the very NETS with which rest() answers 1. */
+    private static void eachAsRest(Checks c, TieStreet x, int kind) {
+        int found = 0;
+        x.all(kind, false);
+        for (long net = 0; net < 1L << x.has(1); net++) {
+            if (x.net(net) && x.rest(kind) == 1) {
+                c.due("one(" + found + ") by kind " + kind + " of " + x.has(0), x.one(found), net);
+                found++;
+            }
+        }
+        c.due("all(" + kind + ") of " + x.has(0), x.all(kind, false), found);
+    }
+
+    private static void allBySets(Sentences s) {
+        Checks c = s.of("Terms II", "and make such of which both are, and all of them gain.");
+        for (String who : new String[] {"a", "b"}) {
+            TieStreet x = people(c, 2, "news 5 when is " + who + ";");
+            c.due("a TIE by which " + who + " alone gains is no SET's", x.all(5, false), 2);
+            c.due("but it is an ADD", x.all(1, false), 1);
+            c.due("LOSS of that without it", x.loss(5, true), 5);
+        }
+        TieStreet x = people(c, 2, "news 5 when all;");
+        c.due("a TIE by which both gain is a SET's", x.all(5, false), 1);
+        c.due("the NET with it", x.one(0), 1);
+        for (String may : new String[] {"bar a b;", "most a 0;", "most b 0;"}) {
+            x = people(c, 2, "news 5 when all;" + may);
+            c.due("it is none where it may not be: " + may, x.all(5, false), 1);
+            c.due("the NET without TIES", x.one(0), 0);
+            c.due("and nothing is lost", x.loss(5, true), 0);
+        }
     }
 
     private static void shapes(Sentences s) {
